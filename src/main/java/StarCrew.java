@@ -57,8 +57,7 @@ public final class StarCrew {
     private final Sky kept = new Sky();
     private final Sky draft = new Sky();
     private boolean isKept = false;
-    private final Tape tape = new Tape();
-    private final TextReader reader = new TextReader(tape);
+    private final TextReader reader = new TextReader();
     private final Sheet[] sheets = new Sheet[SHEETS];
     private final Walker walker = new Walker();
     private final Walker secondWalker = new Walker();
@@ -484,23 +483,23 @@ public final class StarCrew {
         if (n < 1 || n > 4) {
             return finding(BEYOND);
         }
-        if (tape.length + n > TAPE) {
+        if (reader.tape.length + n > TAPE) {
             return finding(FULL);
         }
-        tape.append(bytes, n);
-        return tape.length;
+        reader.tape.append(bytes, n);
+        return reader.tape.length;
     }
 
     public int wipe() {
-        int had = tape.length;
-        tape.length = 0;
+        int had = reader.tape.length;
+        reader.tape.length = 0;
         return had;
     }
 
     public int text() {
         draft.become(sky);
         int items = reader.readInto(draft);
-        tape.length = 0;
+        reader.tape.length = 0;
         if (items >= 0) {
             sky.become(draft);
         }
@@ -647,7 +646,7 @@ public final class StarCrew {
             case 4:
                 return sky.lifeTogether();
             case 5:
-                return tape.length;
+                return reader.tape.length;
             case 6:
                 return sky.z;
             case 7:
@@ -1163,39 +1162,23 @@ public final class StarCrew {
             start = next;
             if (start >= length) {
                 type = END;
-            } else if (isLetter(bytes[start])) {
+            } else if (bytes[start] >= 'a' && bytes[start] <= 'z') {
                 type = WORD;
-                passWord();
-            } else if (isDigit(bytes[start])) {
+                while (next < length && bytes[next] >= 'a' && bytes[next] <= 'z') {
+                    next++;
+                }
+            } else if (bytes[start] >= '0' && bytes[start] <= '9') {
                 type = NUMBER;
-                passNumber();
+                value = 0;
+                while (next < length && bytes[next] >= '0' && bytes[next] <= '9') {
+                    // digits may go on for the whole tape: a value that is too great grows no more
+                    value = value >= TOO_GREAT ? TOO_GREAT : value * 10 + bytes[next] - '0';
+                    next++;
+                }
             } else {
                 type = bytes[start] == ';' ? STOP : OTHER;
                 next++;
             }
-        }
-
-        private void passWord() {
-            while (next < length && isLetter(bytes[next])) {
-                next++;
-            }
-        }
-
-        private void passNumber() {
-            value = 0;
-            while (next < length && isDigit(bytes[next])) {
-                // digits may go on for the whole tape: the value stays where it is too great
-                value = Math.min(TOO_GREAT, value * 10 + bytes[next] - '0');
-                next++;
-            }
-        }
-
-        private static boolean isLetter(int sign) {
-            return sign >= 'a' && sign <= 'z';
-        }
-
-        private static boolean isDigit(int sign) {
-            return sign >= '0' && sign <= '9';
         }
 
         boolean isWord(String word) {
@@ -1214,11 +1197,7 @@ public final class StarCrew {
     /** Reads a text item by item; where it stops short, the tape's token is the fault. */
     private static final class TextReader {
         private static final int FAULT = -1;
-        private final Tape tape;
-
-        TextReader(Tape tape) {
-            this.tape = tape;
-        }
+        final Tape tape = new Tape();
 
         /** How many items, or -1 less the fault. */
         int readInto(Sky sky) {
