@@ -10,6 +10,7 @@ final class AheadTest {
         dustFor();
         uses();
         nothingChanges();
+        fullSky();
         CHECKS.end();
     }
 
@@ -118,6 +119,23 @@ final class AheadTest {
         CHECKS.due("18 and is mended ahead of the 5th", x.uses(5), 2);
         CHECKS.due("18 n 201", x.uses(201), Checks.BEYOND);
         CHECKS.due("18 n -1", x.uses(-1), Checks.BEYOND);
+    }
+
+    private static void fullSky() {
+        StarCrew x = new StarCrew();
+        for (int i = 0; i < 10; i++) {
+            x.star(0, i);
+            x.change(i, 2, 10 + 2 * i);
+        }
+        CHECKS.due("12 the last", x.ahead(9, 9), 10);
+        CHECKS.due("13 the last", x.lasts(9), 10);
+        CHECKS.due("14 the last", x.shine(9), 512);
+        CHECKS.due("15 the first", x.dark(10), 1);
+        CHECKS.due("15 the last", x.dark(1), 10);
+        CHECKS.due("18 each once", x.uses(11), 10);
+        CHECKS.due("10 LIFE together", x.now(2), 190);
+        CHECKS.due("10 WORTH together", x.now(3), 10);
+        CHECKS.due("9 the first goes out", x.go(1), 9);
     }
 
     private static void nothingChanges() {

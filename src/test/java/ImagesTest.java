@@ -100,6 +100,10 @@ final class ImagesTest {
             CHECKS.due("50 count(" + what + ")", x.count(what), due[what]);
         }
         CHECKS.due("51 z is no finding", x.status(-1), 0);
+        for (int spot = 0; spot < 10; spot++) {
+            x.hold(spot, 0);
+        }
+        CHECKS.due("50 all spots hold", x.count(7), 10);
         CHECKS.due("50 what 8", x.count(8), Checks.BEYOND);
         CHECKS.due("50 what -1", x.count(-1), Checks.BEYOND);
     }

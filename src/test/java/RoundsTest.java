@@ -71,6 +71,13 @@ final class RoundsTest {
         x.change(1, 3, 0);
         x.change(2, 3, 0);
         CHECKS.due("20 nothing is worth it", x.best(0), 0);
+        StarCrew one = sky(1);
+        CHECKS.due("20 worth 1", one.best(0) * 10 + one.bestWorth(0), 11);
+        StarCrew ten = sky(0, 1, 2, 3, 4, 5, 6, 7, 8, 9);
+        ten.crew(0, 1, 58);
+        CHECKS.due("20 nine of ten", ten.best(0) * 100 + ten.bestWorth(0), 51109);
+        ten.crew(0, 1, 999);
+        CHECKS.due("20 ten of ten", ten.best(0) * 100 + ten.bestWorth(0), 102310);
         StarCrew y = sky(1, 2, 3);
         y.change(0, 3, 2);
         y.change(1, 3, 2);
@@ -104,6 +111,11 @@ final class RoundsTest {
         CHECKS.due("23 none", x.share(2, 3, 0), 0);
         CHECKS.due("24 none", x.longer(2, 3, 0), 0);
         CHECKS.due("23 of several the least", x.share(2, 3, 15), 3);
+        x.crew(3, 0, 50);
+        CHECKS.due("23 the first takes all", x.share(2, 3, 1), 1);
+        CHECKS.due("24 the first takes all", x.longer(2, 3, 1), 15);
+        CHECKS.due("23 the second takes all", x.share(3, 2, 1), 0);
+        CHECKS.due("24 the second takes all", x.longer(3, 2, 1), 15);
         x.set(3, 0);
         x.crew(0, 1, 0);
         CHECKS.due("23 parts and steps don't matter", x.share(0, 1, 15), 3);

@@ -247,7 +247,13 @@ final class SheetsTest {
         CHECKS.due("46 not even the first", x.judge(0), 1);
         x.crew(0, 1, 999);
         x.crew(1, 1, 0);
+        x.crew(1, 0, 50);
         CHECKS.due("46 crew 0 alone", x.judge(0), 0);
+        x.crew(0, 1, 45);
+        CHECKS.due("46 from where crew 0 is", x.judge(0), 0);
+        x.crew(0, 0, 50);
+        CHECKS.due("46 from where crew 0 is", x.judge(0), 1);
+        x.crew(0, 0, 0);
         Checks.fill(x, 0, 8, 1, 0, 1, 9);
         CHECKS.due("46 one twice", x.judge(0), 3);
         Checks.fill(x, 0, 8, 1, 3);

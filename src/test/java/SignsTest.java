@@ -7,6 +7,7 @@ final class SignsTest {
         mayAndTells();
         told();
         ships();
+        fullSky();
         CHECKS.end();
     }
 
@@ -59,6 +60,11 @@ final class SignsTest {
         CHECKS.due("28 two alike", x.tells(3), Checks.NONE);
         CHECKS.due("28 no such", x.tells(5), Checks.BEYOND);
         CHECKS.due("28 no such", x.tells(-1), Checks.BEYOND);
+        StarCrew whole = sky(1, 2);
+        whole.sign(3);
+        whole.sign(1);
+        whole.sign(2);
+        CHECKS.due("28 by nothing less than all of it", whole.tells(0), 3);
         StarCrew y = sky(1, 2, 3);
         y.sign(6);
         y.sign(1);
@@ -83,6 +89,26 @@ final class SignsTest {
         y.sign(1);
         y.change(0, 2, 0);
         CHECKS.due("29 the only one is told by none", y.told(), 1);
+    }
+
+    private static void fullSky() {
+        StarCrew x = sky(0, 10, 20, 30, 40, 50, 60, 70, 80, 90);
+        int[] signs = {1023, 511, 1, 768, 512, 2};
+        for (int set : signs) {
+            x.sign(set);
+        }
+        CHECKS.due("27 the last star", x.may(512), 1 + 8 + 16);
+        CHECKS.due("28 the whole sky", x.tells(0), 513);
+        CHECKS.due("28 a part of others", x.tells(1), Checks.NONE);
+        CHECKS.due("29 by all that shine", x.told(), 1);
+        x.change(9, 2, 9);
+        CHECKS.due("29 without the last", x.told(), 0);
+        CHECKS.due("30 beside the last", x.steers(88), 8);
+        CHECKS.due("31 of the last", x.sees(9), 0);
+        x.change(9, 2, 10);
+        CHECKS.due("31 of the last", x.sees(9), 9);
+        CHECKS.due("30 at the last", x.steers(94), 9);
+        CHECKS.due("30 between the last and the first", x.steers(95), 0);
     }
 
     private static void ships() {

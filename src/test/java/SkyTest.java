@@ -223,11 +223,18 @@ final class SkyTest {
         CHECKS.due("34 20 nights from 99960", x.drops(20), 0);
         CHECKS.due("34 20 nights from 99980", x.drops(20), Checks.STATE);
         CHECKS.due("9 20 nights from 99980", x.go(20), Checks.STATE);
-        CHECKS.due("9 to the last", x.go(19), 0);
+        CHECKS.due("34 to the last", x.drops(19), 0);
+        CHECKS.due("9 one too many", x.go(1), Checks.STATE);
         CHECKS.due("9 the last night", x.now(0), 99999);
         CHECKS.due("9 wrong and too late", x.go(61), Checks.BEYOND);
         CHECKS.due("34 wrong and too late", x.drops(21), Checks.BEYOND);
-        CHECKS.due("51 STATE", x.status(4), 3);
+        CHECKS.due("51 STATE", x.status(4), 4);
+        StarCrew y = new StarCrew();
+        for (int i = 0; i < 1666; i++) {
+            y.go(60);
+        }
+        CHECKS.due("9 to the last", y.go(39) * 100000 + y.now(0), 99999);
+        CHECKS.due("34 one too many", y.drops(1), Checks.STATE);
     }
 
     private static void now() {

@@ -41,6 +41,10 @@ final class TextsTest {
                 CHECKS.due("34 life of " + i, x.of(i, 2), i == number ? 0 : 49);
             }
         }
+        x.set(0, 0);
+        x.seed(0);
+        x.change(0, 2, 50);
+        CHECKS.due("34 what doesn't wear is hit all the same", x.drops(1) * 100 + x.of(0, 2), 100);
         StarCrew y = new StarCrew();
         for (int i = 0; i < 10; i++) {
             y.star(2, i);
@@ -174,6 +178,14 @@ final class TextsTest {
         CHECKS.due("39 as told", x.of(0, 1) * 100 + x.of(0, 2) * 10 + x.of(0, 3), 567);
         CHECKS.due("39 blanks may stand", Checks.read(x, "   lamp   at  5  ;  dust   1  "), 2);
         CHECKS.due("39 a word is as long as can be", Checks.read(x, "lampat 5"), -1);
+        String[] others = {"lampz", "aamp", "bed", "mixed", "hole", "suide", "ald", "giants", "gian", "must 1", "fishes 1",
+            "bend 1", "darts 1", "sigh 1", "grew 1", "steps 1", "life 1", "worth 1", "z", "{", "`"};
+        for (String other : others) {
+            CHECKS.due("39 another word: " + other, Checks.read(x, other), -1);
+        }
+        CHECKS.due("39 another word behind", Checks.read(x, "lamp it 5"), -1 - 5);
+        CHECKS.due("39 signs beside the digits", Checks.read(x, "dust /"), -1 - 5);
+        CHECKS.due("39 signs beside the digits", Checks.read(x, "dust 1:"), -1 - 6);
         CHECKS.due("39 a number is as long as can be", Checks.read(x, "lamp at 100"), -1 - 8);
         CHECKS.due("39 zeros ahead", Checks.read(x, "dust 0000000000000000000000007"), 1);
         CHECKS.due("39 zeros ahead", x.now(5), 7);
