@@ -254,6 +254,7 @@ final class SheetsTest {
         x.crew(0, 0, 50);
         CHECKS.due("46 from where crew 0 is", x.judge(0), 1);
         x.crew(0, 0, 0);
+        x.crew(0, 1, 999);
         Checks.fill(x, 0, 8, 1, 0, 1, 9);
         CHECKS.due("46 one twice", x.judge(0), 3);
         Checks.fill(x, 0, 8, 1, 3);
