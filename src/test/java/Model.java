@@ -11,7 +11,7 @@ import java.util.regex.Pattern;
  * The document told a second time, as slowly and as near to its words as can be: kinds are classes,
  * rounds try every stretch of the ring, texts are cut into tokens first. StarCrew is held against it.
  */
-final class Model {
+final class Model implements Caller {
     static class Found extends RuntimeException {
         private static final long serialVersionUID = 1L;
         final int which;
@@ -249,7 +249,8 @@ final class Model {
     }
 
     /** Calls the act by its name; a finding is counted. */
-    long call(String name, int... a) {
+    @Override
+    public long call(String name, int... a) {
         try {
             return act(name, a);
         } catch (Found f) {

@@ -1,39 +1,27 @@
 import java.lang.reflect.Method;
 import java.util.ArrayList;
 import java.util.Arrays;
-import java.util.Comparator;
 import java.util.List;
 import java.util.Random;
 
-/** Long runs of drawn calls, each held against Model; the draws have fixed seeds. */
+/** Long runs of drawn calls, each held against Model, and all that is left behind them; the draws have fixed seeds. */
 final class ModelTest {
     private static final String[] WORDS = {"lamp", "red", "fixed", "pole", "guide", "old", "giant", "at", "life",
         "worth", "crew", "steps", "dust", "wishes", "mend", "parts", "sign", ";", "lamps", "a", "#", "\t", "A", "\u00e9"};
 
-    public static void main(String[] args) throws Exception {
+    public static void main(String[] args) {
         Checks checks = new Checks();
         int runs = args.length > 0 ? Integer.parseInt(args[0]) : 60;
-        List<Method> acts = acts();
+        List<Method> acts = new ArrayList<>(Calls.ACTS.values());
         for (int run = 0; run < runs && checks.isClean(); run++) {
             oneRun(checks, acts, run);
         }
         checks.end();
     }
 
-    private static List<Method> acts() {
-        List<Method> acts = new ArrayList<>();
-        for (Method m : StarCrew.class.getDeclaredMethods()) {
-            if (java.lang.reflect.Modifier.isPublic(m.getModifiers())) {
-                acts.add(m);
-            }
-        }
-        acts.sort(Comparator.comparing(Method::getName));
-        return acts;
-    }
-
-    private static void oneRun(Checks checks, List<Method> acts, int run) throws Exception {
+    private static void oneRun(Checks checks, List<Method> acts, int run) {
         Random draw = new Random(run);
-        StarCrew x = new StarCrew();
+        Caller x = new Calls();
         Model model = new Model();
         int wild = 5 + draw.nextInt(30);
         for (int call = 0; call < 512 && checks.isClean(); call++) {
@@ -46,37 +34,33 @@ final class ModelTest {
                 continue;
             }
             int[] a = arguments(act, model, draw, wild);
-            compare(checks, x, model, run, act, a);
+            compare(checks, x, model, run, act.getName(), a);
         }
+        checks.holds("run " + run + ": all is as the model's", Probe.of(x).equals(Probe.of(model)));
     }
 
-    private static void compare(Checks checks, StarCrew x, Model model, int run, Method act, int[] a) throws Exception {
-        Object[] boxed = Arrays.stream(a).boxed().toArray();
-        long got = ((Number) act.invoke(x, boxed)).longValue();
-        long want = model.call(act.getName(), a);
-        checks.due("run " + run + ": " + act.getName() + Arrays.toString(a), got, want);
+    private static void compare(Checks checks, Caller x, Caller model, int run, String act, int... a) {
+        checks.due("run " + run + ": " + act + Arrays.toString(a), x.call(act, a), model.call(act, a));
         for (int what = 0; what <= 7; what++) {
-            checks.due("run " + run + ": count(" + what + ") behind " + act.getName(), x.count(what),
+            checks.due("run " + run + ": count(" + what + ") behind " + act, x.call("count", what),
                 model.call("count", what));
         }
     }
 
-    private static int feedText(Checks checks, StarCrew x, Model model, Random draw) {
+    private static int feedText(Checks checks, Caller x, Model model, Random draw) {
         String text = text(model, draw);
-        int calls = 0;
         for (int i = 0; i < text.length(); i++) {
-            x.feed(text.charAt(i), 1);
+            x.call("feed", text.charAt(i), 1);
             model.call("feed", text.charAt(i), 1);
-            calls++;
         }
-        checks.due("text() of <" + text + ">", x.text(), model.call("text"));
+        checks.due("text() of <" + text + ">", x.call("text"), model.call("text"));
         for (int i = 0; i < 10; i++) {
             for (int what = 0; what < 7; what++) {
-                checks.due("of(" + i + ", " + what + ")", x.of(i, what), model.call("of", i, what));
+                checks.due("of(" + i + ", " + what + ")", x.call("of", i, what), model.call("of", i, what));
             }
-            checks.due("signOf(" + i + ")", x.signOf(i), model.call("signOf", i));
+            checks.due("signOf(" + i + ")", x.call("signOf", i), model.call("signOf", i));
         }
-        return calls / 4;
+        return text.length() / 4;
     }
 
     private static String text(Model model, Random draw) {
